@@ -448,7 +448,7 @@ public final class LandHouse {
     /** Whether p is on the stretch from a to b, its ends too. */
     private static boolean isOn(int ax, int ay, int bx, int by, int px, int py) {
         return px >= Math.min(ax, bx) && px <= Math.max(ax, bx) && py >= Math.min(ay, by) && py <= Math.max(ay, by)
-            && turn(ax, ay, bx, by, px, py) == 0;
+            && (long) (bx - ax) * (py - ay) == (long) (by - ay) * (px - ax);
     }
 
     /** Of two numbers above 0, or one of them 0. */
@@ -750,7 +750,9 @@ public final class LandHouse {
                 return;
             }
             if (begins[at] >= READ_BYTES) {
-                note(4);
+                fault = 4;
+                place = begins[at];
+                token = DEAD;
             } else if (at + 1 < size) {
                 at++;
                 token = kinds[at];
@@ -763,6 +765,11 @@ public final class LandHouse {
             } else {
                 note(1);
             }
+        }
+
+        /** What the TOKEN at hand tells: a NAME's bytes, a NUMBER, or the DAY of a DATE. */
+        long told() {
+            return values[at];
         }
 
         long takeName() {
@@ -1199,8 +1206,19 @@ public final class LandHouse {
                 reader.take();
                 step(W_ADULT, 0);
             } else {
-                readComparison();
+                readValue();
+                int how = reader.token;
+                if (!isComparison(how)) {
+                    reader.note(1);
+                }
+                reader.take();
+                readValue();
+                step(how, 0);
             }
+        }
+
+        private static boolean isComparison(int sign) {
+            return sign == '=' || sign == UNEQUAL || sign == '<' || sign == AT_MOST || sign == '>' || sign == AT_LEAST;
         }
 
         private void readPoint() {
@@ -1210,17 +1228,6 @@ public final class LandHouse {
             reader.expect(',');
             step(W_HAS, x * FINEST + reader.takeNumber());
             reader.expect(')');
-        }
-
-        private void readComparison() {
-            readValue();
-            int how = reader.token;
-            if (how != '=' && how != UNEQUAL && how != '<' && how != AT_MOST && how != '>' && how != AT_LEAST) {
-                reader.note(1);
-            }
-            reader.take();
-            readValue();
-            step(how, 0);
         }
 
         private void readValue() {
@@ -1252,7 +1259,8 @@ public final class LandHouse {
                     reader.expect(')');
                 }
             } else if (first == NUMBER) {
-                step(NUMBER, reader.takeNumber());
+                step(NUMBER, reader.told());
+                reader.take();
             } else if (first >= W_AREA && first <= W_POINTS || first == W_LOTS) {
                 reader.take();
                 step(first, 0);
@@ -1343,25 +1351,21 @@ public final class LandHouse {
             return false;
         }
 
+        /** Whether the borders have a stretch in common. */
         boolean isNear(Figure other) {
             for (int i = 0; i < size; i++) {
-                for (int j = 0; j < other.size; j++) {
-                    if (runsAlong(i, other, j)) {
+                int j = next(i);
+                for (int k = 0; k < other.size; k++) {
+                    int l = other.next(k);
+                    boolean straight = turn(x[i], y[i], x[j], y[j], other.x[k], other.y[k]) == 0
+                        && turn(x[i], y[i], x[j], y[j], other.x[l], other.y[l]) == 0;
+                    if (straight && (overlap(x[i], x[j], other.x[k], other.x[l])
+                        || overlap(y[i], y[j], other.y[k], other.y[l]))) {
                         return true;
                     }
                 }
             }
             return false;
-        }
-
-        private boolean runsAlong(int i, Figure other, int k) {
-            int j = next(i);
-            int l = other.next(k);
-            if (turn(x[i], y[i], x[j], y[j], other.x[k], other.y[k]) != 0
-                || turn(x[i], y[i], x[j], y[j], other.x[l], other.y[l]) != 0) {
-                return false;
-            }
-            return overlap(x[i], x[j], other.x[k], other.x[l]) || overlap(y[i], y[j], other.y[k], other.y[l]);
         }
 
         private static boolean overlap(int a, int b, int c, int d) {
@@ -1866,8 +1870,8 @@ public final class LandHouse {
             amount = 0;
             kind = 0;
             taken = false;
-            lots.clear();
-            over.clear();
+            lots.size = 0;
+            over.size = 0;
             shareTop = 0;
             shareBottom = 1;
         }
@@ -2972,13 +2976,15 @@ public final class LandHouse {
         }
 
         private void survey(int sort) {
+            int condFrom = question.valueEnd;
             long many = 0;
             long most = 0;
             for (int i = 0; i < world.size[sort]; i++) {
-                if (!world.isThere(sort, i) || !condHolds(sort, i)) {
+                if (!world.isThere(sort, i)
+                    || condFrom < question.size && reckon(condFrom, question.size, sort, i) == 0) {
                     continue;
                 }
-                long value = reckon(0, question.valueEnd, sort, i);
+                long value = reckon(0, condFrom, sort, i);
                 answer += question.asks == W_SUM ? value : 1;
                 most = many == 0 ? value : Math.max(most, value);
                 many++;
@@ -2990,11 +2996,6 @@ public final class LandHouse {
             if (question.asks == W_MOST) {
                 answer = most;
             }
-        }
-
-        private boolean condHolds(int sort, int number) {
-            int from = question.valueEnd;
-            return from == question.size || reckon(from, question.size, sort, number) != 0;
         }
 
         /** Goes through steps for one thing; what holds is 1, what does not 0. Without steps it is 0. */
@@ -3326,11 +3327,12 @@ public final class LandHouse {
         private void thenDate(int day) {
             int date = dateOf(day);
             put(' ');
-            putDigits(date / 10000, 1000);
+            putTwo(date / 1000000);
+            putTwo(date / 10000 % 100);
             put('-');
-            putDigits(date / 100 % 100, 10);
+            putTwo(date / 100 % 100);
             put('-');
-            putDigits(date % 100, 10);
+            putTwo(date % 100);
         }
 
         private void endLine() {
@@ -3353,17 +3355,18 @@ public final class LandHouse {
         }
 
         private void putNumber(long number) {
-            long power = 1;
-            for (int i = 0; i < 18 && number / power >= 10; i++) {
-                power *= 10;
+            long highest = 1;
+            for (int i = 0; i < 18 && number / highest >= 10; i++) {
+                highest *= 10;
             }
-            putDigits(number, power);
-        }
-
-        private void putDigits(long number, long power) {
-            for (long unit = power; unit > 0; unit /= 10) {
+            for (long unit = highest; unit > 0; unit /= 10) {
                 put('0' + (int) (number / unit % 10));
             }
+        }
+
+        private void putTwo(int number) {
+            put('0' + number / 10 % 10);
+            put('0' + number % 10);
         }
 
         /** Bytes behind those that are kept are counted alone. */
