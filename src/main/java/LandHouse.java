@@ -2038,9 +2038,14 @@ public final class LandHouse {
 
         /** SORT * BASE + number of what has that NAME, or NONE. */
         int find(long called) {
-            for (int sort = 0; sort < NAMED_SORTS; sort++) {
+            for (int i = 0; i < size[LOT]; i++) {
+                if (lots[i].word == called) {
+                    return LOT * BASE + i;
+                }
+            }
+            for (int sort = PERSON; sort < NAMED_SORTS; sort++) {
                 for (int i = 0; i < size[sort]; i++) {
-                    if (nameOf(sort, i) == called) {
+                    if (things[FIRST[sort] + i].word == called) {
                         return sort * BASE + i;
                     }
                 }
@@ -2096,32 +2101,56 @@ public final class LandHouse {
             return many;
         }
 
+        /** What thing() tells. */
         int fact(int sort, int number, int what) {
+            if (what < 0 || sort < 0 || sort >= NAMED_SORTS || what >= FACTS[sort]) {
+                return NONE;
+            }
             Thing thing = at(sort, number);
-            switch (sort * 10 + (what >= 0 && what < 10 ? what : 9)) {
-                case LOT * 10: return lot(number).figure.area();
-                case LOT * 10 + 1: return lot(number).figure.size;
-                case LOT * 10 + 2: return lot(number).owners;
-                case LOT * 10 + 3: return lot(number).charges.size;
-                case LOT * 10 + 4: return lot(number).price;
-                case PERSON * 10: return thing.kind;
-                case PERSON * 10 + 1: return thing.first;
-                case PERSON * 10 + 2: return isOfAge(number) ? 1 : 0;
-                case PERSON * 10 + 3: return isAble(number) ? 1 : 0;
-                case CHARGE * 10: return thing.amount;
-                case CHARGE * 10 + 1: return thing.lots.size;
-                case SERVE * 10: return thing.kind;
-                case SERVE * 10 + 1: return thing.lots.size;
-                case SERVE * 10 + 2: return thing.over.size;
-                case SERVE * 10 + 3: return thing.deed.points;
-                case LEASE * 10: return thing.amount;
-                case LEASE * 10 + 1: return thing.lots.size;
-                case LEASE * 10 + 2: return thing.first;
-                case LEASE * 10 + 3: return thing.until;
-                case CAUTION * 10: return thing.until;
-                case OPTION * 10: return thing.until;
-                case OPTION * 10 + 1: return thing.lots.size;
-                default: return NONE;
+            switch (sort) {
+                case LOT: return lotFact(lot(number), what);
+                case PERSON: return personFact(number, what);
+                case CHARGE: return what == 0 ? thing.amount : thing.lots.size;
+                case SERVE: return serveFact(thing, what);
+                case LEASE: return leaseFact(thing, what);
+                default: return what == 0 ? thing.until : thing.lots.size;
+            }
+        }
+
+        private static int lotFact(Lot lot, int what) {
+            switch (what) {
+                case 0: return lot.figure.area();
+                case 1: return lot.figure.size;
+                case 2: return lot.owners;
+                case 3: return lot.charges.size;
+                default: return lot.price;
+            }
+        }
+
+        private int personFact(int number, int what) {
+            switch (what) {
+                case 0: return at(PERSON, number).kind;
+                case 1: return at(PERSON, number).first;
+                case 2: return isOfAge(number) ? 1 : 0;
+                default: return isAble(number) ? 1 : 0;
+            }
+        }
+
+        private static int serveFact(Thing serve, int what) {
+            switch (what) {
+                case 0: return serve.kind;
+                case 1: return serve.lots.size;
+                case 2: return serve.over.size;
+                default: return serve.deed.points;
+            }
+        }
+
+        private static int leaseFact(Thing lease, int what) {
+            switch (what) {
+                case 0: return lease.amount;
+                case 1: return lease.lots.size;
+                case 2: return lease.first;
+                default: return lease.until;
             }
         }
 
