@@ -1323,7 +1323,8 @@ public final class LandHouse {
                     return ON_BORDER;
                 }
                 // one end counts and the other not, so that a ray through a corner meets the border once
-                if (ay > py != by > py && (by > ay ? turn > 0 : turn < 0)) {
+                boolean passes = (ay > py) != (by > py);
+                if (passes && (by > ay ? turn > 0 : turn < 0)) {
                     in = !in;
                 }
             }

@@ -150,6 +150,8 @@ public final class DeedsTest {
         r.done("on 1800-02-01 firm f by anna");
         r.done("on 1800-02-01 sell west from anna 1/2 to bank for 5");
         r.fails(5, "on 1800-02-01 close bank");
+        r.done("on 1800-02-01 sell west from anna to bank for 5");
+        r.fails(5, "on 1800-02-01 close bank");
         r.done("on 1800-02-02 sell west from bank to anna for 5");
         r.done("on 1800-02-02 charge c on west to bank for 5");
         r.fails(5, "on 1800-02-02 close bank");

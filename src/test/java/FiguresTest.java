@@ -10,6 +10,8 @@ public final class FiguresTest {
         joined();
         notJoined();
         pointsOfLots();
+        pointsOfSlantingLots();
+        near();
         Registry.finish("FiguresTest");
     }
 
@@ -225,5 +227,75 @@ public final class FiguresTest {
         // a way through corners and along edges
         r.replies("4", "at 1800-01-01 count lots where has (500,250) or has (500,500)");
         r.replies("0", "at 1800-01-01 count lots where has (999999,250) or has (0,999999)");
+    }
+
+    private static void pointsOfSlantingLots() {
+        Registry r = new Registry();
+        // a star's point: ways through corners, along slanting edges, and past them
+        r.done(DAY + "split land by (0,300)(400,500)(0,700) into wedge, rest");
+        r.done(DAY + "split rest by (200,1000)(500,700)(800,1000) into crest, body");
+        looking(r);
+        Registry.due("wedge", corners(r, 0), "(0,300)(400,500)(0,700)");
+        Registry.due("crest", corners(r, 1), "(500,700)(800,1000)(200,1000)");
+        int[][] points = {{399, 500, 1, 0}, {400, 500, 0, 2}, {401, 500, 1, 0}, {200, 400, 0, 2}, {200, 401, 1, 0},
+            {200, 399, 1, 0}, {100, 650, 0, 2}, {100, 649, 1, 0}, {100, 651, 1, 0}, {500, 700, 0, 2}, {500, 701, 1, 0},
+            {500, 699, 1, 0}, {600, 800, 0, 2}, {600, 799, 1, 0}, {600, 801, 1, 0}, {300, 900, 0, 2}, {300, 899, 1, 0},
+            {800, 1000, 0, 2}, {0, 300, 0, 2}, {0, 500, 0, 1}, {1000, 700, 0, 1}, {999, 700, 1, 0}, {0, 200, 0, 1}};
+        for (int[] p : points) {
+            Registry.due("in at " + p[0] + "," + p[1], r.house.lots(p[0], p[1], 0), p[2]);
+            Registry.due("on at " + p[0] + "," + p[1], r.house.lots(p[0], p[1], 1), p[3]);
+        }
+        String[] in = {"(399,500)", "(200,401)", "(1,500)", "(0,650)", "(200,400)", "(0,300)"};
+        String[] out = {"(401,500)", "(200,399)", "(1,300)", "(1,700)", "(100,651)", "(999999,500)", "(500,999999)"};
+        for (String point : in) {
+            r.replies("1", "at 1800-01-01 count lots where named wedge and has " + point);
+            r.fails(0, DAY + "serve s way of body over wedge at " + point);
+        }
+        for (String point : out) {
+            r.replies("0", "at 1800-01-01 count lots where named wedge and has " + point);
+            r.fails(3, DAY + "serve s way of body over wedge at " + point);
+        }
+        // CUTS of it: from a slanting edge to another one
+        r.fails(0, DAY + "split wedge by (200,400)(200,600) into a, b");
+        r.fails(0, DAY + "split wedge by (200,600)(100,500)(200,400) into a, b");
+        r.fails(3, DAY + "split wedge by (200,401)(200,600) into a, b");
+        r.fails(3, DAY + "split wedge by (200,400)(100,350) into a, b");
+        r.fails(3, DAY + "split body by (200,400)(200,600) into a, b");
+        r.fails(0, DAY + "split body by (200,400)(500,300)(200,0) into a, b");
+        r.fails(0, DAY + "split body by (400,500)(500,700) into a, b");
+    }
+
+    private static void near() {
+        Registry r = new Registry();
+        r.done(DAY + "split land by (0,0)(1000,1000) into up, low");
+        r.done(DAY + "split up by (500,500)(0,1000) into u2, u1");
+        r.done(DAY + "split low by (300,300)(1000,0) into l2, l1");
+        // along the diagonal u2 goes up to (500,500), and l1 up to (300,300)
+        r.replies("3 u2 u1 l1 ", "at 1800-01-01 list lots where near l2");
+        r.replies("2 u2 l2 ", "at 1800-01-01 list lots where near l1");
+        r.replies("2 u2 l2 ", "at 1800-01-01 list lots where near u1");
+        r.replies("3 u1 l2 l1 ", "at 1800-01-01 list lots where near u2");
+        r.replies("0", "at 1800-01-01 list lots where near up or near land");
+        // a point in common is no stretch, be it a corner of one on a stretch of the other
+        Registry s = fourStripes();
+        s.done(DAY + "split s1 by (500,0)(500,250) into a, b");
+        s.done(DAY + "split s2 by (500,250)(500,500) into c, d");
+        s.replies("2 b c ", "at 1800-01-01 list lots where near a");
+        s.replies("2 c d ", "at 1800-01-01 list lots where near s3 and not named s4");
+        Registry t = new Registry();
+        t.done(DAY + "split land by (0,500)(1000,500) into top, bottom");
+        t.done(DAY + "split top by (300,1000)(500,500) into half, west");
+        t.done(DAY + "split half by (500,500)(700,1000) into tip, east");
+        t.replies("2 west east ", "at 1800-01-01 list lots where near tip");
+        t.replies("2 west east ", "at 1800-01-01 list lots where near bottom");
+        t.replies("2 bottom tip ", "at 1800-01-01 list lots where near east");
+        // a corner of one at the middle of a stretch of the other
+        t.fails(3, DAY + "join tip, bottom into x");
+        t.fails(3, DAY + "join west, east into x");
+        t.done(DAY + "join east, bottom into y");
+        t.done(DAY + "join west, y into z");
+        looking(t);
+        Registry.due("z", corners(t, 1), "(0,0)(1000,0)(1000,1000)(700,1000)(500,500)(300,1000)(0,1000)");
+        t.fails(0, DAY + "join z, tip into all");
     }
 }

@@ -36,21 +36,8 @@ public final class QuestionsTest {
         r.replies("-2", "most 0-5+area*0+corners*3-9 over lots");
     }
 
-    private static Registry full() {
-        Registry r = Registry.settled();
-        r.done("on 1800-02-01 sell west from anna 1/3 to kid for 70");
-        r.done("on 1800-02-01 guard kid by anna");
-        r.done("on 1800-02-01 charge c1 on west, east to bank for 500");
-        r.done("on 1800-02-01 charge c2 on west to bert for 20");
-        r.done("on 1800-02-01 serve s1 water of west over east at (600,600) (700,700)");
-        r.done("on 1800-02-01 lease x1 on east to bert until 1801-02-01 for 30");
-        r.done("on 1800-02-01 option o1 on west to bert until 1810-01-01");
-        r.done("on 1800-02-01 caution d1 on east by bank");
-        return r;
-    }
-
     private static void sets() {
-        Registry r = full();
+        Registry r = Registry.furnished();
         String at = "at 1800-02-01 ";
         r.replies("2 west east ", at + "list lots");
         r.replies("5 crown anna bert kid bank ", at + "list persons");
@@ -65,7 +52,7 @@ public final class QuestionsTest {
     }
 
     private static void conds() {
-        Registry r = full();
+        Registry r = Registry.furnished();
         String at = "at 1800-02-01 ";
         r.replies("1 west ", at + "list lots where owner anna");
         r.replies("1 east ", at + "list lots where owner crown");
@@ -86,6 +73,9 @@ public final class QuestionsTest {
         r.replies("1 d1 ", at + "list cautions where on east");
         r.replies("1 o1 ", at + "list options where on west");
         r.replies("0", at + "list lots where on west");
+        Registry first = new Registry();
+        first.done("on 1700-01-01 charge c on land to crown for 5");
+        first.replies("1 c ", "list charges where on land and owner crown");
         r.replies("1 east ", at + "list lots where near west");
         r.replies("0", at + "list lots where near land or near bank or near nothing");
         r.replies("0", at + "list persons where near west");
@@ -109,7 +99,7 @@ public final class QuestionsTest {
     }
 
     private static void values() {
-        Registry r = full();
+        Registry r = Registry.furnished();
         String at = "at 1800-02-01 ";
         r.replies("2000000", at + "sum area over lots");
         r.replies("8", at + "sum corners over lots");
@@ -163,7 +153,7 @@ public final class QuestionsTest {
     }
 
     private static void shows() {
-        Registry r = full();
+        Registry r = Registry.furnished();
         String at = "at 1800-02-01 ";
         r.replies("-1", at + "show nothing");
         r.replies("0 lot west 1000000\nat (0,0) (500,0) (500,1000) (0,1000)\nanna 2/3\nkid 1/3\ncharge c1 500\ncharge c2 20\n"
@@ -188,7 +178,7 @@ public final class QuestionsTest {
     }
 
     private static void traces() {
-        Registry r = full();
+        Registry r = Registry.furnished();
         String at = "at 1800-02-01 ";
         // 1 to 6 settled: persons anna, bert, kid, firm, split, sale of west
         r.replies("5 1 4 6 7 8 ", at + "trace anna");

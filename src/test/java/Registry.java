@@ -141,4 +141,18 @@ final class Registry {
         r.done("on 1800-01-03 sell west from crown to anna for 100");
         return r;
     }
+
+    /** The same place with one right of each sort, two CHARGES, and a GUARDIAN of kid, who has a share in west. */
+    static Registry furnished() {
+        Registry r = settled();
+        r.done("on 1800-02-01 sell west from anna 1/3 to kid for 70");
+        r.done("on 1800-02-01 guard kid by anna");
+        r.done("on 1800-02-01 charge c1 on west, east to bank for 500");
+        r.done("on 1800-02-01 charge c2 on west to bert for 20");
+        r.done("on 1800-02-01 serve s1 water of west over east at (600,600) (700,700)");
+        r.done("on 1800-02-01 lease x1 on east to bert until 1801-02-01 for 30");
+        r.done("on 1800-02-01 option o1 on west to bert until 1810-01-01");
+        r.done("on 1800-02-01 caution d1 on east by bank");
+        return r;
+    }
 }

@@ -10,19 +10,6 @@ public final class StateTest {
         Registry.finish("StateTest");
     }
 
-    private static Registry full() {
-        Registry r = Registry.settled();
-        r.done("on 1800-02-01 sell west from anna 1/3 to kid for 70");
-        r.done("on 1800-02-01 guard kid by anna");
-        r.done("on 1800-02-01 charge c1 on west, east to bank for 500");
-        r.done("on 1800-02-01 charge c2 on west to bert for 20");
-        r.done("on 1800-02-01 serve s1 water of west over east at (600,600) (700,700)");
-        r.done("on 1800-02-01 lease x1 on east to bert until 1801-02-01 for 30");
-        r.done("on 1800-02-01 option o1 on west to bert until 1810-01-01");
-        r.done("on 1800-02-01 caution d1 on east by bank");
-        return r;
-    }
-
     private static void at(Registry r, String date) {
         int day = Registry.day(date);
         if (r.house.count(3) < day) {
@@ -47,7 +34,7 @@ public final class StateTest {
     }
 
     private static void counts() {
-        Registry r = full();
+        Registry r = Registry.furnished();
         r.tell("annul");
         at(r, "1800-02-01");
         int[] counts = {14, 5, 0, Registry.day("1800-02-01"), Registry.day("1800-02-01"), Registry.day("1800-02-01"), 14, -1, -1,
@@ -68,7 +55,7 @@ public final class StateTest {
     }
 
     private static void names() {
-        Registry r = full();
+        Registry r = Registry.furnished();
         at(r, "1800-02-01");
         Registry.due("west", r.house.name(0, 0), Registry.packed("west"));
         Registry.due("east", r.house.name(0, 1), Registry.packed("east"));
@@ -92,7 +79,7 @@ public final class StateTest {
     }
 
     private static void facts() {
-        Registry r = full();
+        Registry r = Registry.furnished();
         at(r, "1800-02-01");
         int birth = Registry.day("1795-03-03");
         int first = Registry.day("1800-02-01");
@@ -123,7 +110,7 @@ public final class StateTest {
     }
 
     private static void owners() {
-        Registry r = full();
+        Registry r = Registry.furnished();
         at(r, "1800-02-01");
         int[][] due = {{0, 0, 1, 2, 3}, {0, 1, 3, 1, 3}, {1, 0, 0, 1, 1}};
         for (int[] row : due) {
@@ -171,7 +158,7 @@ public final class StateTest {
     private static void sums() {
         Registry r = new Registry();
         Registry.due("sum of a new one", r.house.sum(), 2809619651555307425L);
-        Registry f = full();
+        Registry f = Registry.furnished();
         f.done("on 1800-02-01 serve s2 light of east over west at (0,0)");
         at(f, "1800-02-01");
         String[][] rest = {{"c1 c2", "c1"}, {}, {"west east bank", "west bert"}, {"west east", "east west"}, {"east bert"},
