@@ -94,7 +94,9 @@ public final class LandHouse {
 
     /** The words of the language, a blank behind each, in the order of the numbers below. */
     private static final String ACT_WORDS =
-        "person firm guard death close sell split join border charge pay assign rank free auction serve waive lease caution option take end ";
+        "person firm guard death close sell split join border charge pay assign rank free auction ";
+    private static final String RIGHT_WORDS =
+        "serve waive lease caution option take end ";
     private static final String DEED_WORDS =
         "annul correct on to born by from for into before of over at until way water light ";
     private static final String ASK_WORDS =
@@ -582,6 +584,7 @@ public final class LandHouse {
 
         Reader() {
             int learnt = learn(ACT_WORDS, 0);
+            learnt = learn(RIGHT_WORDS, learnt);
             learnt = learn(DEED_WORDS, learnt);
             learnt = learn(ASK_WORDS, learnt);
             learn(THING_WORDS, learnt);

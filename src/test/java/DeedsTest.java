@@ -9,6 +9,7 @@ public final class DeedsTest {
         sales();
         splits();
         joins();
+        joinsEitherWay();
         borders();
         charges();
         paymentsAndAssignments();
@@ -403,6 +404,23 @@ public final class DeedsTest {
         r.done("on 1800-01-05 join n1, d2 into e");
         r.replies("3 serve t way\nof d1\nof e\nover n2\n", "at 1800-01-05 show t");
         r.replies("3 serve s ended\n", "at 1800-01-05 show s");
+    }
+
+    /** Which one of both stands first in a row and which is told first are two things. */
+    private static void joinsEitherWay() {
+        for (String both : new String[] {"b, a", "a, b"}) {
+            Registry r = new Registry();
+            r.done("on 1800-01-01 lease x on land to crown until 1900-01-01 for 5");
+            r.done("on 1800-01-01 charge c on land to crown for 5");
+            r.done("on 1800-01-01 split land by (0,250) (1000,250) into rest, a");
+            r.done("on 1800-01-01 split rest by (0,500) (1000,500) into c1, b");
+            r.replies("2 charge c crown 5\non c1 1\non b 1\non a 1\n", "at 1800-01-01 show c");
+            r.done("on 1800-01-02 join " + both + " into m");
+            r.replies("2 charge c crown 5\non c1 1\non m 1\n", "at 1800-01-02 show c");
+            r.replies("4 lease x crown 5 1900-01-01\non c1\non m\n", "at 1800-01-02 show x");
+            r.done("on 1800-01-03 join m, c1 into land3");
+            r.replies("4 lease x crown 5 1900-01-01\non land3\n", "at 1800-01-03 show x");
+        }
     }
 
     private static void borders() {

@@ -192,6 +192,12 @@ public final class FiguresTest {
         Registry r = new Registry();
         r.done(DAY + "split land by (0,500)(1000,500) into up, low");
         r.done(DAY + "split up by (200,500)(300,600)(400,500) into u, pit");
+        // through a corner that sticks in, level with both ends or not
+        r.fails(3, DAY + "split u by (0,600)(1000,600) into x, y");
+        r.fails(3, DAY + "split u by (1000,600)(0,600) into x, y");
+        r.fails(3, DAY + "split u by (0,600)(500,600)(500,1000) into x, y");
+        r.fails(3, DAY + "split u by (0,900)(600,300) into x, y");
+        r.fails(0, DAY + "split u by (0,900)(300,600) into x, y");
         r.done(DAY + "split low by (400,500)(500,400)(600,500) into pit2, l");
         // u and l have the stretches from 0 to 200 and from 600 to 1000 in common, and the point (400,500)
         r.fails(3, DAY + "join u, l into x");

@@ -178,6 +178,9 @@ public final class LanguageTest {
         r.faulty('s', 1, 0, "annul #1");
         r.faulty('s', 1, 1, " correct #1 to on 1800-01-01 take x");
         r.faulty('s', 2, 3, "on 1800-02-31 take x");
+        r.faulty('s', 1, 21, "on 1800-01-01 take x y");
+        r.faulty('s', 1, 20, "on 1800-01-01 take x, y");
+        r.faulty('s', 4, 602, padded("on 1800-01-01 take x", 602));
         r.faulty('s', 1, 0, "");
         Registry.due("nothing is entered", r.suppose("on 1800-01-01 take x"), 1);
         Registry.due("fault of what fails", r.house.fault(), 0);
